@@ -8,6 +8,8 @@ public final class Promise08RunTest {
         localFixedPriority();
         localDeadlines();
         lostBudget();
+        fullComponents(PeriodicResource.EDF);
+        fullComponents(PeriodicResource.FP);
         Check.finish();
     }
 
@@ -169,6 +171,33 @@ public final class Promise08RunTest {
             x.run(1);
             Check.due("left of 0 at " + (i + 1), x.getBudgetLeft(0), leftOfZero[i]);
             Check.due("left of 1 at " + (i + 1), x.getBudgetLeft(1), 2);
+        }
+    }
+
+    private static void fullComponents(int policy) {
+        // Four times eight tasks (64,1), servers (4,1): the components take turns, each serves
+        // its tasks in index order, and from 32 to 64 every unit is lost.
+        PeriodicResource x = new PeriodicResource(256);
+        for (int i = 0; i < 32; i++) {
+            x.addTask(i / 8, 64, 1);
+        }
+        for (int comp = 0; comp < 4; comp++) {
+            x.setPolicy(comp, policy);
+            Check.due("computeInterface(" + comp + ", 4)", x.computeInterface(comp, 4), 1);
+        }
+        Check.due("admit()", x.admit(), true);
+        int[] executed = new int[32];
+        for (int unit = 0; unit < 256; unit++) {
+            int turn = unit % 64;
+            if (turn < 32) {
+                executed[turn % 4 * 8 + turn / 4]++;
+            }
+            Check.due("run(1)", x.run(1), 1);
+            int[] got = new int[32];
+            for (int i = 0; i < 32; i++) {
+                got[i] = x.getTask(i / 8, i % 8, PeriodicResource.T_EXECUTED);
+            }
+            Check.due("executed after unit " + unit, got, executed);
         }
     }
 }
