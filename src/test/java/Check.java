@@ -1,20 +1,67 @@
-import java.lang.reflect.Field;
 import java.util.Arrays;
 
-/** What the tests share: counting wrong answers, reading a whole state, ready-made objects. */
+/**
+ * Counting wrong answers, sentence by sentence of the document, and reading a whole state.
+ * A test says with sentence(..) which words of ../shared/DOC.md the checks that follow hold
+ * the class to; a sentence without a check is itself a fault of the test.
+ */
 final class Check {
     static final int MIN = Integer.MIN_VALUE;
     static final int MAX = Integer.MAX_VALUE;
 
+    // A class that is broken in the middle of a loop would otherwise fill the screen.
+    private static final int SHOWN_PER_SENTENCE = 10;
+
+    private static String sentence = "";
+    private static int sentences = 0;
+    private static int checks = 0;
+    private static int wrongInSentence = 0;
     private static int wrong = 0;
 
     private Check() {
     }
 
+    /** Which part of a sentence, or whose, when its words stand more than once. */
+    static void sentence(String words, String which) {
+        sentence(words);
+        sentence += " (" + which + ")";
+    }
+
+    static void sentence(String words) {
+        endSentence();
+        sentence = "\"" + words + "\"";
+        sentences++;
+        checks = 0;
+        wrongInSentence = 0;
+    }
+
+    private static void endSentence() {
+        if (sentences > 0 && checks == 0) {
+            due("the number of checks is above 0", false, true);
+        }
+    }
+
+    /** A check that the class's representation, which is free, does not let us make. */
+    static void skip(String why) {
+        checks++;
+        System.out.println("skipped: " + sentence + ": " + why);
+    }
+
+    private static void fault(String text) {
+        wrong++;
+        wrongInSentence++;
+        if (wrongInSentence == 1 && sentences > 0) {
+            System.out.println(sentence + ":");
+        }
+        if (wrongInSentence <= SHOWN_PER_SENTENCE) {
+            System.out.println("  " + text);
+        }
+    }
+
     static void due(String call, long got, long want) {
+        checks++;
         if (got != want) {
-            wrong++;
-            System.out.println(call + " answered " + got + ", due is " + want);
+            fault(call + " answered " + got + ", due is " + want);
         }
     }
 
@@ -23,10 +70,12 @@ final class Check {
     }
 
     static void due(String what, int[] got, int[] want) {
-        if (!Arrays.equals(got, want)) {
-            wrong++;
-            System.out.println(what + " is " + Arrays.toString(got)
-                    + ", due is " + Arrays.toString(want));
+        checks++;
+        int at = Arrays.mismatch(got, want);
+        if (at >= 0 && got.length == want.length) {
+            fault(what + " has " + got[at] + " at place " + at + ", due is " + want[at]);
+        } else if (at >= 0) {
+            fault(what + " has " + got.length + " places, due are " + want.length);
         }
     }
 
@@ -35,11 +84,25 @@ final class Check {
     }
 
     static void finish() {
+        endSentence();
         if (wrong != 0) {
             System.out.println(wrong + " answers are not as due");
             System.exit(1);
         }
-        System.out.println("all answers are as due");
+        System.out.println("all answers are as due" + (sentences == 0 ? "" : ", sentences: " + sentences));
+    }
+
+    /**
+     * Numbers outside low..high: its neighbours, the ends of int, and those that would fall
+     * inside if they were cut to a byte or a short, or wrapped around when multiplied by 8.
+     */
+    static int[] outside(int low, int high) {
+        int[] all = {
+            MIN, MIN + 1, MIN + low, low - 65536, low - 256, low - 2, low - 1,
+            high + 1, high + 2, low + 256, high + 256, low + 65536, high + 65536,
+            low + (1 << 29), 1 << 30, MAX - 1, MAX,
+        };
+        return Arrays.stream(all).filter(i -> i < low || i > high).distinct().toArray();
     }
 
     /** Policy, task count, interface and every task's period and wcet of one component. */
@@ -53,6 +116,21 @@ final class Check {
             all[5 + 2 * task] = x.getTask(comp, task, PeriodicResource.T_WCET);
         }
         return all;
+    }
+
+    static int[][] allSettings(PeriodicResource x) {
+        return new int[][] {settings(x, 0), settings(x, 1), settings(x, 2), settings(x, 3)};
+    }
+
+    static void dueSettings(String after, PeriodicResource x, int[][] want) {
+        for (int comp = 0; comp < 4; comp++) {
+            due(after + ": settings of " + comp, settings(x, comp), want[comp]);
+        }
+    }
+
+    static void dropInterface(int[] settings) {
+        settings[PeriodicResource.C_PERIOD] = -1;
+        settings[PeriodicResource.C_BUDGET] = -1;
     }
 
     /** Misses, budget left and every task's remaining and executed work of one component. */
@@ -77,7 +155,7 @@ final class Check {
         return all;
     }
 
-    static int[] join(int[] a, int[] b) {
+    static int[] join(int[] a, int... b) {
         int[] both = Arrays.copyOf(a, a.length + b.length);
         System.arraycopy(b, 0, both, a.length, b.length);
         return both;
@@ -99,55 +177,10 @@ final class Check {
         }
     }
 
-    /**
-     * An admitted object with H = 100, not yet run:
-     * component 0 EDF, tasks (8,2) and (12,3), interface (4,3);
-     * component 1 FP, task (32,1), interface (8,1);
-     * component 2 EDF, no tasks, interface (5,0);
-     * component 3 EDF, task (64,1), interface (16,1).
-     */
-    static PeriodicResource admittedObject() {
-        PeriodicResource x = new PeriodicResource(100);
-        x.addTask(0, 8, 2);
-        x.addTask(0, 12, 3);
-        x.setPolicy(1, PeriodicResource.FP);
-        x.addTask(1, 32, 1);
-        x.addTask(3, 64, 1);
-        due("fixture: computeInterface(0, 4)", x.computeInterface(0, 4), 3);
-        due("fixture: computeInterface(1, 8)", x.computeInterface(1, 8), 1);
-        due("fixture: computeInterface(2, 5)", x.computeInterface(2, 5), 0);
-        due("fixture: computeInterface(3, 16)", x.computeInterface(3, 16), 1);
-        due("fixture: admit()", x.admit(), true);
-        return x;
-    }
-
-    /** The same after nine units, when every component stands amid its work. */
-    static PeriodicResource runningObject() {
-        PeriodicResource x = admittedObject();
-        due("fixture: run(9)", x.run(9), 9);
-        return x;
-    }
-
-    /** Adds the task for which (period, budget) is the least interface with that period. */
-    static void addTaskFor(PeriodicResource x, int comp, int period, int budget) {
-        int wcet = 2 * budget <= period ? budget : 3 * budget - period;
-        x.addTask(comp, 2 * period, wcet);
-        due("computeInterface(" + comp + ", " + period + ")",
-                x.computeInterface(comp, period), budget);
-    }
-
-    /**
-     * Lets an overloaded object run. No run of public calls gets an admitted object
-     * to miss a deadline (Promise 7's consequence), so that step 4 of a unit, which
-     * must count misses all the same, can be seen in no other way.
-     */
-    static void forceAdmitted(PeriodicResource x) {
-        try {
-            Field admitted = PeriodicResource.class.getDeclaredField("admitted");
-            admitted.setAccessible(true);
-            admitted.setBoolean(x, true);
-        } catch (ReflectiveOperationException e) {
-            throw new IllegalStateException(e);
-        }
+    /** That a change was taken: admission is gone and the simulation starts anew. */
+    static void dueTakenBack(String after, PeriodicResource x) {
+        due(after + ": isAdmitted()", x.isAdmitted(), false);
+        due(after + ": run(1)", x.run(1), PeriodicResource.REFUSED);
+        dueReset(after, x);
     }
 }

@@ -4,7 +4,9 @@ import java.lang.reflect.Method;
 import java.lang.reflect.Modifier;
 import java.nio.file.Files;
 import java.nio.file.Path;
+import java.util.ArrayList;
 import java.util.Arrays;
+import java.util.List;
 import java.util.Set;
 import java.util.TreeSet;
 import java.util.regex.Matcher;
@@ -110,20 +112,38 @@ public final class LanguageTest {
         String code = source.replaceAll("//[^\n]*", "").replaceAll("(?s)/\\*.*?\\*/", "");
         Matcher banned = Pattern.compile("\\b(package|import|throws?|try|catch|finally|synchronized"
                 + "|assert|instanceof|null|float|double|String|Math|Integer|Long|System|Arrays|Object"
-                + "|enum|record|interface|var|protected)\\b|->|::|\"").matcher(code);
+                + "|enum|interface|protected)\\b|->|::|\"").matcher(code);
         while (banned.find()) {
             dueTrue("without " + banned.group(), false);
         }
-        for (String line : code.split("\n")) {
-            if (line.contains("new ")) {
-                dueTrue("an array made in a field's initialiser: " + line,
-                        line.matches("    private final \\w+\\[\\] \\w+ = new \\w+\\[[A-Z_]+\\];"));
+        Matcher made = Pattern.compile("\\bnew\\b(.*)").matcher(code);
+        while (made.find()) {
+            dueTrue("an array of a constant length: " + made.group(), made.group(1).matches(
+                    " (int|long|short|byte|char|boolean)\\[[A-Z0-9_ *+]+\\];"));
+        }
+        for (String member : members(code)) {
+            String head = member.substring(0, member.indexOf('{'));
+            boolean constructor = head.contains("public PeriodicResource(");
+            dueTrue("a method makes nothing: " + head.strip(), constructor || !member.matches("(?s).*\\bnew\\b.*"));
+            dueTrue("a short method: " + head.strip(), member.strip().lines().count() <= 60);
+        }
+    }
+
+    /** The methods and the constructor, each with its head and its body. */
+    private static List<String> members(String code) {
+        List<String> all = new ArrayList<>();
+        int depth = 0;
+        int start = 0;
+        for (int i = 0; i < code.length(); i++) {
+            char c = code.charAt(i);
+            depth += c == '{' ? 1 : c == '}' ? -1 : 0;
+            if (depth == 1 && c == '}') {
+                all.add(code.substring(start, i + 1));
+            }
+            if (depth == 1 && (c == '{' || c == '}' || c == ';')) {
+                start = i + 1;
             }
         }
-        int length = 0;
-        for (String line : source.split("\n")) {
-            length = line.matches("    \\S.*\\{") ? 0 : length + 1;
-            dueTrue("short methods", !line.equals("    }") || length <= 60);
-        }
+        return all;
     }
 }

@@ -17,7 +17,8 @@ public final class ModelTest {
         for (int walk = 0; walk < WALKS && Check.wrongSoFar() == 0; walk++) {
             walk(walk);
         }
-        if (admittedUnits < 1000 || missesSeen < 100) {
+        boolean missesCanBeSeen = Stages.forceAdmitted(new PeriodicResource(64));
+        if (admittedUnits < 1000 || missesCanBeSeen && missesSeen < 100) {
             Check.due("the walks saw too little: " + admittedUnits + " units, " + missesSeen + " misses", 0, 1);
         }
         Check.finish();
@@ -44,8 +45,7 @@ public final class ModelTest {
         boolean forced = false;
         for (int i = 0; i < CALLS; i++) {
             String name = "walk " + number + " call " + i + ": ";
-            if (mayForce && next(8) == 0) {
-                Check.forceAdmitted(x);
+            if (mayForce && next(8) == 0 && Stages.forceAdmitted(x)) {
                 m.admitted = true;
                 forced = true;
             }

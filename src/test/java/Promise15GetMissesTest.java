@@ -1,41 +1,52 @@
 public final class Promise15GetMissesTest {
     public static void main(String[] args) {
-        PeriodicResource x = Check.runningObject();
-        int[] before = Check.state(x);
-        for (int comp : new int[] {Check.MIN, -1, 4, 5, Check.MAX}) {
-            Check.due("getMisses(" + comp + ")", x.getMisses(comp), -1);
-        }
-        for (int comp = 0; comp < 4; comp++) {
-            Check.due("getMisses(" + comp + ")", x.getMisses(comp), 0);
-        }
-        Check.due("state after getMisses", Check.state(x), before);
-        x.run(1000);
-        for (int comp = 0; comp < 4; comp++) {
-            Check.due("getMisses(" + comp + ") at the horizon", x.getMisses(comp), 0);
-        }
-        missesAreCounted();
+        pure();
+        refusedComponent();
+        answersTheMisses();
         Check.finish();
     }
 
-    private static void missesAreCounted() {
-        // Component 0 has no interface and is never served; 1 has the whole processor.
-        PeriodicResource x = new PeriodicResource(64);
-        x.addTask(0, 3, 2);
-        x.addTask(0, 4, 1);
-        x.addTask(1, 2, 2);
-        Check.due("computeInterface(1, 1)", x.computeInterface(1, 1), 1);
-        Check.forceAdmitted(x);
-        int[] misses = {0, 0, 1, 2, 2, 3, 3, 4, 5, 5, 5, 7, 7};
-        for (int i = 0; i < misses.length; i++) {
-            Check.due("run(1)", x.run(1), 1);
-            Check.due("getMisses(0) at " + (i + 1), x.getMisses(0), misses[i]);
-            Check.due("getMisses(1) at " + (i + 1), x.getMisses(1), 0);
-            // The unfinished job is dropped: the next one starts with its own work alone.
-            Check.due("rem of 0/0", x.getTask(0, 0, PeriodicResource.T_REMAINING), 2);
+    private static void pure() {
+        Check.sentence("`getMisses(comp)` is pure.");
+        for (Stages.Stage stage : Stages.ALL) {
+            for (int comp = 0; comp < 4; comp++) {
+                int c = comp;
+                // Of the tasks (3,2) and (4,1), never served, five jobs end by 9.
+                int want = stage.name.equals("missing") && c == 0 ? 5 : 0;
+                Stages.changesNothing(stage, "getMisses(" + c + ")", x -> x.getMisses(c), want);
+            }
         }
-        x.run(1000);
-        Check.due("getMisses(0) at the horizon", x.getMisses(0), 64 / 3 + 64 / 4);
-        x.admit();
-        Check.due("getMisses(0) after admit()", x.getMisses(0), 0);
+    }
+
+    private static void refusedComponent() {
+        Check.sentence("If comp is not in 0..3 it answers REFUSED.", "getMisses");
+        for (int comp : Check.outside(0, 3)) {
+            Stages.changesNothing("getMisses(" + comp + ")", x -> x.getMisses(comp), PeriodicResource.REFUSED);
+        }
+    }
+
+    private static void answersTheMisses() {
+        Check.sentence("Otherwise it answers the component's misses.");
+        for (int comp = 0; comp < 4; comp++) {
+            PeriodicResource x = new PeriodicResource(64);
+            x.addTask(comp, 3, 2);
+            x.addTask(comp, 4, 1);
+            if (!Stages.forceAdmitted(x)) {
+                Check.skip(Stages.NO_FORCE);
+                return;
+            }
+            int[] misses = {0, 0, 1, 2, 2, 3, 3, 4, 5, 5, 5, 7, 7};
+            for (int i = 0; i < misses.length; i++) {
+                x.run(1);
+                for (int other = 0; other < 4; other++) {
+                    Check.due("getMisses(" + other + ") at " + (i + 1), x.getMisses(other),
+                            other == comp ? misses[i] : 0);
+                }
+            }
+            x.run(1000);
+            Check.due("getMisses(" + comp + ") at the horizon", x.getMisses(comp), 64 / 3 + 64 / 4);
+            x.admit();
+            Check.due("getMisses(" + comp + ") after admit()", x.getMisses(comp), 0);
+        }
     }
 }
