@@ -19,6 +19,7 @@ public final class Promise06ComputeInterfaceTest {
         interfaceBecomes();
         replacingAnEarlierOne();
         noBudget();
+        noBudgetTakesTheInterface();
         admissionGoes();
         admissionGoesWithNoBudget();
         withoutTasks();
@@ -204,6 +205,21 @@ public final class Promise06ComputeInterfaceTest {
                     dueNoBudget(Stages.withTasks(64, comp, policy, 1, 1, 1, 1), comp, period);
                     dueNoBudget(Stages.withTasks(64, comp, policy, 64, 64, 64, 1), comp, period);
                 }
+            }
+        }
+    }
+
+    private static void noBudgetTakesTheInterface() {
+        Check.sentence("If none exists, the component has no interface afterwards and the answer is NO_BUDGET.",
+                "an earlier interface");
+        for (int policy = 0; policy < 2; policy++) {
+            for (int comp = 0; comp < 4; comp++) {
+                PeriodicResource x = Stages.withTasks(64, comp, policy, 1, 1, 1, 1);
+                if (!Stages.forceInterface(x, comp)) {
+                    Check.skip("no way was found to give an interface to a component that none covers");
+                    return;
+                }
+                dueNoBudget(x, comp, 4);
             }
         }
     }

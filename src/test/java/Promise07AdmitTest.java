@@ -118,8 +118,10 @@ public final class Promise07AdmitTest {
         dueAdmit(false, 3, 1, 3, 1, 3, 1, 32, 1);
         dueAdmit(true, 7, 1, 7, 2, 7, 4);
         dueAdmit(true, 6, 1, 3, 1, 2, 1);
-        // One exactly, though a sum of doubles comes out above it.
+        // One exactly, though a sum of doubles, or of floats in the last row, comes out above it.
         dueAdmit(true, 4, 1, 24, 7, 24, 7, 6, 1);
+        dueAdmit(true, 30, 6, 30, 23, 30, 1);
+        dueAdmit(true, 15, 4, 30, 16, 5, 1);
         // One and one 719200th.
         dueAdmit(false, 32, 3, 31, 13, 29, 6, 25, 7);
         dueAdmit(true, 32, 3, 31, 13, 29, 6, 25, 6);

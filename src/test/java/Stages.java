@@ -1,3 +1,4 @@
+import java.lang.reflect.Array;
 import java.lang.reflect.Field;
 import java.lang.reflect.Modifier;
 import java.util.ArrayList;
@@ -226,6 +227,36 @@ final class Stages {
             }
         } catch (ReflectiveOperationException e) {
             throw new IllegalStateException(e);
+        }
+    }
+
+    /**
+     * Gives a component the interface (4,0) whatever its tasks are; false if that can't be done.
+     * No run of public calls leaves an interface to a component that no budget covers.
+     */
+    static boolean forceInterface(PeriodicResource x, int comp) {
+        PeriodicResource without = new PeriodicResource(100);
+        PeriodicResource with = new PeriodicResource(100);
+        with.computeInterface(comp, 4);
+        try {
+            for (Field field : PeriodicResource.class.getDeclaredFields()) {
+                if (!Modifier.isStatic(field.getModifiers()) && field.getType().isArray()) {
+                    field.setAccessible(true);
+                    copyWhatDiffers(field.get(with), field.get(without), field.get(x));
+                }
+            }
+        } catch (ReflectiveOperationException e) {
+            throw new IllegalStateException(e);
+        }
+        return x.getComponent(comp, PeriodicResource.C_PERIOD) == 4
+                && x.getComponent(comp, PeriodicResource.C_BUDGET) == 0;
+    }
+
+    private static void copyWhatDiffers(Object from, Object other, Object to) {
+        for (int i = 0; i < Array.getLength(from); i++) {
+            if (!Array.get(from, i).equals(Array.get(other, i))) {
+                Array.set(to, i, Array.get(from, i));
+            }
         }
     }
 }

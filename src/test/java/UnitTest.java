@@ -287,14 +287,15 @@ public final class UnitTest {
     private static void budgetIsFilled() {
         Check.sentence("for each component in index order that has an interface: if now % P == 0 then left = Q");
         for (int period = 1; period <= 32; period++) {
-            for (int comp = 0; comp < 4; comp++) {
+            for (int budget = 1; budget <= period; budget++) {
+                int comp = (period + budget) % 4;
                 PeriodicResource x = new PeriodicResource(256);
-                x.addTask(comp, 1, 1);
+                Stages.addTaskFor(x, comp, period, budget);
                 x.computeInterface(comp, period);
                 x.admit();
                 for (int now = 0; now <= 256; now++) {
-                    Check.due("left of (" + period + "," + period + ") at " + now,
-                            x.getBudgetLeft(comp), period - now % period);
+                    Check.due("left of (" + period + "," + budget + ") at " + now,
+                            x.getBudgetLeft(comp), Math.max(0, budget - now % period));
                     x.run(1);
                 }
             }
