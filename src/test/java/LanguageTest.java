@@ -7,7 +7,9 @@ import java.nio.file.Path;
 import java.util.ArrayList;
 import java.util.Arrays;
 import java.util.List;
+import java.util.Map;
 import java.util.Set;
+import java.util.TreeMap;
 import java.util.TreeSet;
 import java.util.regex.Matcher;
 import java.util.regex.Pattern;
@@ -102,6 +104,7 @@ public final class LanguageTest {
                 Class<?> element = type.isArray() ? type.getComponentType() : type;
                 dueTrue(f + " is of a plain type", element.isPrimitive()
                         && element != float.class && element != double.class);
+                dueTrue(f + " keeps its array", !type.isArray() || Modifier.isFinal(mods));
             }
         }
         dueSame("constants", shown, CONSTANTS);
@@ -121,12 +124,68 @@ public final class LanguageTest {
             dueTrue("an array of a constant length: " + made.group(), made.group(1).matches(
                     " (int|long|short|byte|char|boolean)\\[[A-Z0-9_ *+]+\\];"));
         }
-        for (String member : members(code)) {
+        List<String> members = members(code);
+        dueCalls(members);
+        for (String member : members) {
             String head = member.substring(0, member.indexOf('{'));
             boolean constructor = head.contains("public PeriodicResource(");
             dueTrue("a method makes nothing: " + head.strip(), constructor || !member.matches("(?s).*\\bnew\\b.*"));
             dueTrue("a short method: " + head.strip(), member.strip().lines().count() <= 60);
         }
+    }
+
+    /** No recursion, calls at most six deep, and none inside the arguments of another. */
+    private static void dueCalls(List<String> members) {
+        Map<String, String> bodies = new TreeMap<>();
+        for (String member : members) {
+            int open = member.indexOf('{');
+            Matcher name = Pattern.compile("(\\w+)\\s*\\(").matcher(member.substring(0, open));
+            dueTrue("a member with a name: " + member.strip(), name.find());
+            dueTrue("one member of the name " + name.group(1),
+                    bodies.put(name.group(1), member.substring(open)) == null);
+        }
+        Pattern call = Pattern.compile("\\b(" + String.join("|", bodies.keySet()) + ")\\s*\\(");
+        Map<String, Set<String>> called = new TreeMap<>();
+        for (Map.Entry<String, String> member : bodies.entrySet()) {
+            Set<String> names = new TreeSet<>();
+            Matcher found = call.matcher(member.getValue());
+            while (found.find()) {
+                names.add(found.group(1));
+                String arguments = inBrackets(member.getValue(), found.end());
+                dueTrue("no call inside " + found.group(1) + "(" + arguments + ")",
+                        !call.matcher(arguments).find());
+            }
+            called.put(member.getKey(), names);
+        }
+        for (String name : bodies.keySet()) {
+            int deep = callsDeep(called, name);
+            dueTrue(name + " ends, with calls at most six deep: " + deep, deep <= 6);
+        }
+    }
+
+    /** How many calls stand on each other when this one is made; too many if it goes round. */
+    private static int callsDeep(Map<String, Set<String>> called, String name) {
+        Set<String> level = Set.of(name);
+        int deep = 0;
+        while (!level.isEmpty() && deep <= called.size()) {
+            Set<String> next = new TreeSet<>();
+            for (String caller : level) {
+                next.addAll(called.get(caller));
+            }
+            level = next;
+            deep++;
+        }
+        return deep;
+    }
+
+    private static String inBrackets(String text, int start) {
+        int depth = 1;
+        int end = start;
+        while (depth > 0) {
+            char c = text.charAt(end++);
+            depth += c == '(' ? 1 : c == ')' ? -1 : 0;
+        }
+        return text.substring(start, end - 1);
     }
 
     /** The methods and the constructor, each with its head and its body. */
